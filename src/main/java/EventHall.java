@@ -1450,7 +1450,11 @@ public final class EventHall {
                 push(op == '/' ? left / right : left % right);
                 return 0;
             }
-            push(combine(op, left, right));
+            if (op == '+' || op == '-' || op == '*') {
+                push(combine(op, left, right));
+            } else {
+                push(truth(holds(op, left, right)));
+            }
             return 0;
         }
 
@@ -1460,20 +1464,25 @@ public final class EventHall {
                     return left + right;
                 case '-':
                     return left - right;
-                case '*':
-                    return left * right;
-                case '<':
-                    return truth(left < right);
-                case '>':
-                    return truth(left > right);
-                case AT_MOST:
-                    return truth(left <= right);
-                case AT_LEAST:
-                    return truth(left >= right);
-                case SAME:
-                    return truth(left == right);
                 default:
-                    return truth(left != right);
+                    return left * right;
+            }
+        }
+
+        private static boolean holds(int relation, int left, int right) {
+            switch (relation) {
+                case '<':
+                    return left < right;
+                case '>':
+                    return left > right;
+                case AT_MOST:
+                    return left <= right;
+                case AT_LEAST:
+                    return left >= right;
+                case SAME:
+                    return left == right;
+                default:
+                    return left != right;
             }
         }
     }

@@ -1,6 +1,7 @@
 /** What every test needs: a count of the wrong answers, and a way to give a text to a hall. */
 final class Due {
     private static final int BYTES = 20;
+    private static final int SHOWN = 200;
     private static int wrong = 0;
     private static int asked = 0;
 
@@ -11,7 +12,8 @@ final class Due {
         asked++;
         if (got != want) {
             wrong++;
-            System.out.println(what + " answered " + got + ", due is " + want);
+            String shown = what.length() > SHOWN ? what.substring(0, SHOWN) + " .." : what;
+            System.out.println(shown + " answered " + got + ", due is " + want);
         }
     }
 

@@ -1,0 +1,328 @@
+/** Promise 4: load, its faults and what it sets back. */
+public final class LoadTest {
+    private LoadTest() {
+    }
+
+    public static void main(String[] args) {
+        goodTexts();
+        bytesThatAreNoToken();
+        tokensThatCannotCome();
+        wordsThatAreTaken();
+        wordsThatAreNone();
+        tooMuch();
+        tooDeep();
+        argumentsOfStarts();
+        theLeastOfOneToken();
+        aFaultReadsNothing();
+        loadSetsBack();
+        Due.close();
+    }
+
+    /** The fault of a text and its place; place is BAD for fault 0. */
+    private static void fault(String text, int number, int place) {
+        EventHall hall = new EventHall();
+        Due.feed(hall, text);
+        Due.is("load of " + text, hall.load(), number);
+        Due.is("state(11) of " + text, hall.state(11), number);
+        Due.is("state(12) of " + text, hall.state(12), place);
+    }
+
+    /** As above, the place being where the mark | stands in the text. */
+    private static void faultAtMark(String marked, int number) {
+        int place = marked.indexOf('|');
+        fault(marked.substring(0, place) + marked.substring(place + 1), number, place);
+    }
+
+    private static void good(String text) {
+        fault(text, 0, EventHall.BAD);
+    }
+
+    private static void goodTexts() {
+        good("");
+        good(" \t\r\n");
+        good("# only a remark");
+        good("#\n#");
+        good("number a;#x\nnumber b;");
+        good("resource r 1;resource s 99;");
+        good("store s 0 1; store t 9999 9999; store u 0 9999;");
+        good("number a, b1, C, abcdefgh;");
+        good("number holds, Hold, HOLD, rel, wait;");
+        good("process p() { }");
+        good("process p(a,b,c,d,e,f,g,h) { start p(1,2,3,4,5,6,7,a) 2; }");
+        good("process p() { start q(1); } process q(x) { start p(); }");
+        good("process p(q) { start q(); } process q() { }");
+        good("number g; process p(g) { g = 1; } process q() { let g = g + 1; g = g; }");
+        good("process p(a) { } process q(a) { let b = a; } number a; resource b 1;");
+        good("process p() { if 1 { let a = 1; } else { a = 2; } say a; }");
+        good("process p() { say 000000001 == 1; say 999999999; }");
+        good("process p() { say 1 - -1; say !!1 != !0; say -(-1) <= 2; say 1 < 2 && 2 < 3 || 0; }");
+        good("resource r 1; store s 0 1; process p() { seize r; seize r -1; free r; put s 1; get s 1; }");
+        good("resource r 1; store s 0 1; process p() { await units r + queue s > now * me; wake me; stop me; end; }");
+        good("process p() { hold draw(3) + draw((2)); while 0 { } if 1 { } if 0 { } else { } }");
+    }
+
+    private static void bytesThatAreNoToken() {
+        for (char c = 0; c < 256; c++) {
+            boolean begins = c < 128 && " \t\n\r#(){},;=+-*/%<>!".indexOf(c) >= 0;
+            boolean isWordByte = c < 128 && Character.isLetterOrDigit(c);
+            if (!begins && !isWordByte) {
+                fault("number a;" + c, 1, 9);
+            }
+        }
+        faultAtMark("number |abcdefghi;", 1);
+        faultAtMark("|abcdefghi", 1);
+        faultAtMark("process p() { say |1234567890; }", 1);
+        faultAtMark("process p() { say |1234567890x; }", 1);
+        faultAtMark("process p() { say 123456789|x; }", 1);
+        faultAtMark("resource r 1|x;", 1);
+        faultAtMark("process p() { say 1 |& 2; }", 1);
+        fault("process p() { say 1 | 2; }", 1, 20);
+        faultAtMark("process p() { say 1 &&|& 2; }", 1);
+        fault("process p() { say 1 ||| 2; }", 1, 22);
+        faultAtMark("number a|_b;", 1);
+        faultAtMark("number a; |\"", 1);
+    }
+
+    private static void tokensThatCannotCome() {
+        faultAtMark("|x", 2);
+        faultAtMark("|;", 2);
+        faultAtMark("|hold 1;", 2);
+        faultAtMark("|7", 2);
+        faultAtMark("resource|", 2);
+        faultAtMark("resource |5 r;", 2);
+        faultAtMark("resource r |s;", 2);
+        faultAtMark("resource r |;", 2);
+        faultAtMark("resource r 1 # more \n |", 2);
+        faultAtMark("resource r 1|, s 1;", 2);
+        faultAtMark("resource r |-1;", 2);
+        faultAtMark("store s 1 |;", 2);
+        faultAtMark("number a b;".replace(" b", " |b"), 2);
+        faultAtMark("number |;", 2);
+        faultAtMark("number a, |;", 2);
+        faultAtMark("process p |{ }", 2);
+        faultAtMark("process p(|,) { }", 2);
+        faultAtMark("process p(a |b) { }", 2);
+        faultAtMark("process p(a, |) { }", 2);
+        faultAtMark("process p() |;", 2);
+        faultAtMark("process p() { |", 2);
+        faultAtMark("process p() { } |}", 2);
+        faultAtMark("process p() { |; }", 2);
+        faultAtMark("process p() { |1 = 2; }", 2);
+        faultAtMark("process p(a) { a |== 2; }", 2);
+        faultAtMark("process p(a) { a = |; }", 2);
+        faultAtMark("process p(a) { a = 1 |}", 2);
+        faultAtMark("process p() { let |= 2; }", 2);
+        faultAtMark("process p() { if 1 |say 1; }", 2);
+        faultAtMark("process p() { if |{ } }", 2);
+        faultAtMark("process p() { if 1 { } else |if 1 { } }", 2);
+        faultAtMark("process p() { end |1; }", 2);
+        faultAtMark("process p() { say (1|; }", 2);
+        faultAtMark("process p() { say 1|); }", 2);
+        faultAtMark("process p() { say 1 < 2 |< 3; }", 2);
+        faultAtMark("process p() { say |* 2; }", 2);
+        faultAtMark("process p() { say |+ 2; }", 2);
+        faultAtMark("process p() { say draw |3; }", 2);
+        faultAtMark("process p() { say units |3; }", 2);
+        faultAtMark("process p() { start |(); }", 2);
+        faultAtMark("process p() { start p|; }", 2);
+        faultAtMark("process p() { start p(|,); }", 2);
+        faultAtMark("process p(a) { start p(1 |2); }", 2);
+        faultAtMark("resource r 1; process p() { free r |1; }", 2);
+        faultAtMark("resource r 1; process p() { seize |1; }", 2);
+        faultAtMark("store s 0 1; process p() { put s |; }", 2);
+    }
+
+    private static void wordsThatAreTaken() {
+        String[] reserved = ("resource store number process let if else while hold seize free put get await start stop"
+                + " wake say end now me draw units queue").split(" ");
+        for (String word : reserved) {
+            faultAtMark("number |" + word + ";", 3);
+            faultAtMark("process p(|" + word + ") { }", 3);
+            faultAtMark("process p() { let |" + word + " = 1; }", 3);
+        }
+        faultAtMark("resource |hold 1;", 3);
+        faultAtMark("store |say 0 1;", 3);
+        faultAtMark("process |end() { }", 3);
+        faultAtMark("number a, |a;", 3);
+        faultAtMark("number a; resource |a 1;", 3);
+        faultAtMark("resource a 1; store |a 0 1;", 3);
+        faultAtMark("store a 0 1; process |a() { }", 3);
+        faultAtMark("process a() { } number |a;", 3);
+        faultAtMark("process a() { } process |a() { }", 3);
+        faultAtMark("process p(|p) { }", 3);
+        faultAtMark("process p() { let |p = 1; }", 3);
+        faultAtMark("process p(a, |a) { }", 3);
+        faultAtMark("process p(a) { let |a = 1; }", 3);
+        faultAtMark("process p() { if 1 { let a = 1; } else { let |a = 1; } }", 3);
+        faultAtMark("resource r 1; process p(|r) { }", 3);
+        faultAtMark("store s 0 1; process p() { let |s = 1; }", 3);
+    }
+
+    private static void wordsThatAreNone() {
+        faultAtMark("process p() { |x = 1; }", 4);
+        faultAtMark("process p() { |x & 1; }", 4);
+        faultAtMark("process p() { say |x; }", 4);
+        faultAtMark("process p() { let a = |a; }", 4);
+        faultAtMark("process p() { say |a; let a = 1; }", 4);
+        faultAtMark("process p(a) { } process q() { say |a; }", 4);
+        faultAtMark("process p() { say |a; } number a;", 4);
+        faultAtMark("process p() { say |p; }", 4);
+        faultAtMark("resource r 1; process p() { |r = 1; }", 4);
+        faultAtMark("resource r 1; process p() { say |r; }", 4);
+        faultAtMark("resource r 1; process p() { put |r 1; }", 4);
+        faultAtMark("resource r 1; process p() { get |r 1; }", 4);
+        faultAtMark("store s 0 1; process p() { seize |s; }", 4);
+        faultAtMark("store s 0 1; process p() { free |s; }", 4);
+        faultAtMark("number n; process p() { say units |n; }", 4);
+        faultAtMark("number n; process p() { say queue |n; }", 4);
+        faultAtMark("process p() { await |draw(3); }", 4);
+        faultAtMark("process p() { await 1 + (2 * -|draw(3)); }", 4);
+        good("process p() { await 1; say draw(3); }");
+        faultAtMark("process p() { say |hold; }", 4);
+        faultAtMark("process p() { |now = 1; }", 4);
+    }
+
+    private static String repeat(String part, int times) {
+        return part.repeat(times);
+    }
+
+    private static String numbered(String before, String letter, int from, int to, String behind) {
+        StringBuilder all = new StringBuilder();
+        for (int i = from; i <= to; i++) {
+            all.append(before).append(letter).append(i).append(behind);
+        }
+        return all.toString();
+    }
+
+    private static void tooMuch() {
+        faultAtMark("resource r |0;", 5);
+        faultAtMark("resource r |100;", 5);
+        faultAtMark("store s |10000 10000;", 5);
+        faultAtMark("store s 0 |10000;", 5);
+        faultAtMark("store s 0 |0;", 5);
+        faultAtMark("store s 5 |4;", 5);
+        good(numbered("resource ", "r", 1, 8, " 1;"));
+        faultAtMark(numbered("resource ", "r", 1, 8, " 1;") + "resource |r9 1;", 5);
+        good(numbered("store ", "s", 1, 6, " 0 1;"));
+        faultAtMark(numbered("store ", "s", 1, 6, " 0 1;") + "store |s7 0 1;", 5);
+        good("number n" + numbered(", ", "n", 2, 16, "") + ";");
+        faultAtMark("number n" + numbered(", ", "n", 2, 16, "") + ", |n17;", 5);
+        faultAtMark("number n" + numbered(", ", "n", 2, 16, "") + "; number |n17;", 5);
+        good(numbered("process ", "p", 1, 12, "() { }"));
+        faultAtMark(numbered("process ", "p", 1, 12, "() { }") + "process |p13() { }", 5);
+        faultAtMark("process p(a" + numbered(", ", "a", 2, 8, "") + ", |a9) { }", 5);
+        good("process p(a, b) { " + numbered("let ", "a", 3, 8, " = 1;") + " }");
+        faultAtMark("process p(a, b) { " + numbered("let ", "a", 3, 8, " = 1;") + "let |a9 = 1; }", 5);
+        good("process p() { " + repeat("end;", 250) + " }");
+        faultAtMark("process p() { " + repeat("end;", 250) + " |end; }", 5);
+        good("process p() { " + repeat("end;", 125) + " } process q() { " + repeat("if 1 { }", 125) + " }");
+        faultAtMark("process p() { " + repeat("end;", 125) + " } process q() { " + repeat("while 0 { }", 124)
+                + " if 1 { |say 1; } }", 5);
+    }
+
+    private static void tooDeep() {
+        good("process p() { " + repeat("if 1 { ", 9) + repeat("} ", 9) + "}");
+        faultAtMark("process p() { " + repeat("if 1 { ", 9) + "if 1 |{ } " + repeat("} ", 9) + "}", 5);
+        faultAtMark("process p() { " + repeat("while 1 { ", 9) + "if 1 |say 1; " + repeat("} ", 9) + "}", 2);
+        good("process p() { " + repeat("if 1 { } else { ", 9) + "say 1;" + repeat("} ", 9) + "}");
+        good("process p() { say " + repeat("(", 30) + "1" + repeat(")", 30) + "; }");
+        faultAtMark("process p() { say " + repeat("(", 31) + "|1" + repeat(")", 31) + "; }", 5);
+        good("process p() { say " + repeat("-", 30) + "1; }");
+        faultAtMark("process p() { say " + repeat("!", 31) + "|1; }", 5);
+        good("process p() { say " + repeat("draw(", 30) + "1" + repeat(")", 30) + "; }");
+        faultAtMark("process p() { say " + repeat("draw(", 31) + "|me" + repeat(")", 31) + "; }", 5);
+        good("process p() { say " + repeat("1 + (2 * ", 30) + "1" + repeat(")", 30) + "; }");
+        good("process p() { say 1" + repeat("+1", 1980) + "; }");
+        good("process p() { say 1" + repeat("||1", 1320) + "; }");
+    }
+
+    private static void argumentsOfStarts() {
+        faultAtMark("process p() { start p(1|); }", 6);
+        faultAtMark("process p(a) { start p(|); }", 6);
+        faultAtMark("process p(a, b) { } process q() { start p(1, 2, 3|) 4; }", 6);
+        faultAtMark("process p() { start |q(); }", 6);
+        faultAtMark("process p() { start |q(); } process q(a) { }", 6);
+        faultAtMark("process p() { start |q(1); start r(); }", 6);
+        faultAtMark("process p() { start q(1); start |r(); } process q(a) { }", 6);
+        faultAtMark("process p() { start q(); say |x; }", 4);
+        faultAtMark("resource r 1; process p() { start |r(); }", 6);
+        faultAtMark("process p() { start |q(); } number q;", 6);
+        faultAtMark("process p() { start |q(1,2,3,4,5,6,7,8,9); }", 6);
+    }
+
+    private static void theLeastOfOneToken() {
+        faultAtMark("1|x", 1);
+        faultAtMark("resource |abcdefghi 1;", 1);
+        faultAtMark(numbered("resource ", "r", 1, 8, " 1;") + "resource |hold 1;", 3);
+        faultAtMark(numbered("resource ", "r", 1, 8, " 1;") + "resource |r1 1;", 3);
+        faultAtMark(numbered("resource ", "r", 1, 8, " 1;") + "resource |1 1;", 2);
+        faultAtMark("process p() { " + repeat("end;", 250) + " |x = 1; }", 4);
+        faultAtMark("process p() { " + repeat("end;", 250) + " |5; }", 2);
+        faultAtMark("process p() { say " + repeat("(", 31) + "|x; }", 4);
+        faultAtMark("process p() { say " + repeat("(", 31) + "|); }", 2);
+        faultAtMark("process p() { await " + repeat("(", 31) + "|draw(1); }", 4);
+        faultAtMark("process p() { say " + repeat("(", 31) + "1|x; }", 1);
+    }
+
+    private static void aFaultReadsNothing() {
+        EventHall hall = Due.hall("number a; resource r 1; process p() { a = 1; say 1; }");
+        hall.start(0, 0, 0, 0, 0);
+        hall.run(10);
+        Due.is("number before", hall.number(0), 1);
+        Due.feed(hall, "number a; x");
+        Due.is("faulty load", hall.load(), 2);
+        Due.is("TIME", hall.state(0), EventHall.BAD);
+        Due.is("SEED", hall.state(9), EventHall.BAD);
+        Due.is("number", hall.number(0), -2_000_000_000);
+        Due.is("process", hall.process(0, 0), -2_000_000_000);
+        Due.is("place", hall.place(0, 0), -2);
+        Due.is("sum", hall.sum(0, 0), EventHall.BAD);
+        Due.is("trace", hall.trace(0, 0), -2_000_000_000);
+        Due.is("start", hall.start(0, 0, 0, 0, 0), EventHall.BAD);
+        Due.is("run", hall.run(1), EventHall.BAD);
+        Due.is("turn", hall.turn(1), EventHall.BAD);
+        Due.is("load of the empty text", hall.load(), 0);
+        Due.is("fault behind it", hall.state(11), 0);
+        Due.is("its place", hall.state(12), EventHall.BAD);
+        Due.is("TIME of the empty text", hall.state(0), 0);
+        Due.is("run of the empty text", hall.run(5), 0);
+        Due.is("turn of the empty text", hall.turn(5), EventHall.NONE);
+    }
+
+    private static void loadSetsBack() {
+        String text = "number a; resource r 1; store s 2 5;"
+                + " process p(n) { a = n; let b = 7; seize r; say a; hold 5; get s 3; say draw(9); }";
+        EventHall hall = Due.hall(text);
+        hall.start(0, 4, 0, 0, 0);
+        hall.start(0, 5, 0, 0, 0);
+        hall.run(6);
+        Due.is("amid", hall.state(10), 1);
+        Due.feed(hall, text);
+        Due.is("second load", hall.load(), 0);
+        int[] want = {0, 0, 0, 0, 0, 0, 0, 0, 0, 1, EventHall.NONE, 0, EventHall.BAD};
+        for (int what = 0; what < want.length; what++) {
+            Due.is("state(" + what + ") behind the second load", hall.state(what), want[what]);
+        }
+        Due.is("number", hall.number(0), 0);
+        Due.is("process", hall.process(0, 0), -2_000_000_000);
+        Due.is("trace", hall.trace(0, 0), -2_000_000_000);
+        int[] resource = {1, 0, 1, 0, 0, 0, EventHall.NONE};
+        int[] store = {2, 0, 5, 0, 0, 0, EventHall.NONE};
+        for (int what = 0; what < resource.length; what++) {
+            Due.is("place(0, " + what + ")", hall.place(0, what), resource[what]);
+            Due.is("place(1, " + what + ")", hall.place(1, what), store[what]);
+        }
+        Due.is("nobody waits", hall.place(0, 10), EventHall.NONE);
+        for (int what = 0; what < 3; what++) {
+            Due.is("sum(0, " + what + ")", hall.sum(0, what), 0);
+            Due.is("sum(1, " + what + ")", hall.sum(1, what), 0);
+        }
+        Due.is("first process again", hall.start(0, 6, 0, 0, 0), 0);
+        Due.is("its parameter", hall.process(0, 10), 6);
+        Due.is("its let, not yet told", hall.process(0, 11), 0);
+        Due.is("it has no units", hall.process(0, 4), 0);
+        hall.seed(77);
+        hall.load();
+        Due.is("load leaves the SEED", hall.state(9), 77);
+    }
+}
