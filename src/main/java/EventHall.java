@@ -399,6 +399,10 @@ public final class EventHall {
             for (int i = 0; i < SORTS; i++) {
                 counts[i] = 0;
             }
+            for (int i = 0; i < MOST_PLACES; i++) {
+                atFirst[i] = 0;
+                rooms[i] = 0;
+            }
             actCount = 0;
             opCount = 0;
         }

@@ -15,6 +15,8 @@ public final class LoadTest {
         theLeastOfOneToken();
         aFaultReadsNothing();
         loadSetsBack();
+        loadMakesAsNew();
+        manyLoads();
         Due.close();
     }
 
@@ -25,6 +27,7 @@ public final class LoadTest {
         Due.is("load of " + text, hall.load(), number);
         Due.is("state(11) of " + text, hall.state(11), number);
         Due.is("state(12) of " + text, hall.state(12), place);
+        Due.is("TIME of " + text, hall.state(0), number == 0 ? 0 : EventHall.BAD);
     }
 
     /** As above, the place being where the mark | stands in the text. */
@@ -47,6 +50,7 @@ public final class LoadTest {
         good("store s 0 1; store t 9999 9999; store u 0 9999;");
         good("number a, b1, C, abcdefgh;");
         good("number holds, Hold, HOLD, rel, wait;");
+        good("number a, z, A, Z, a0, z9, AZ09az;");
         good("process p() { }");
         good("process p(a,b,c,d,e,f,g,h) { start p(1,2,3,4,5,6,7,a) 2; }");
         good("process p() { start q(1); } process q(x) { start p(); }");
@@ -59,6 +63,10 @@ public final class LoadTest {
         good("resource r 1; store s 0 1; process p() { seize r; seize r -1; free r; put s 1; get s 1; }");
         good("resource r 1; store s 0 1; process p() { await units r + queue s > now * me; wake me; stop me; end; }");
         good("process p() { hold draw(3) + draw((2)); while 0 { } if 1 { } if 0 { } else { } }");
+        good("resource r 1; process p(a) { await 1; if draw(2) { } await 1; while draw(2) { } await 1; let b = draw(2);"
+                + " await 1; a = draw(2); await 1; seize r draw(2); await 1; start p(draw(2)) draw(2); }");
+        Due.is("behind a remark", Due.hall("number a;# number b;\nnumber c;").number(1), 0);
+        Due.is("in a remark", Due.hall("number a;# number b;\nnumber c;").number(2), -2_000_000_000);
     }
 
     private static void bytesThatAreNoToken() {
@@ -85,6 +93,8 @@ public final class LoadTest {
 
     private static void tokensThatCannotCome() {
         faultAtMark("|x", 2);
+        faultAtMark("# number $ \n |x", 2);
+        faultAtMark("number a;#\r x\n#\n\n |x", 2);
         faultAtMark("|;", 2);
         faultAtMark("|hold 1;", 2);
         faultAtMark("|7", 2);
@@ -324,5 +334,75 @@ public final class LoadTest {
         hall.seed(77);
         hall.load();
         Due.is("load leaves the SEED", hall.state(9), 77);
+    }
+
+    private static final String LIFE = "number a; resource r 1; resource t 2; store s 2 5; store u 0 4;"
+            + " process main(n) { let b = n; start wrong(); start waits(b) 1; start waits(2); start tells(); seize r; seize t; hold 3;"
+            + " put u 3; put u 3; say 5; }"
+            + " process tells() { let f = now; say f + 1; }"
+            + " process wrong() { seize t; hold 1; say 1 / 0; }"
+            + " process waits(n) { let c = n + a; let d = me; seize r n; let e = now; a = a + 1; hold 2; get s n; await a > 7; say c; }";
+
+    /** A life in which all counts come to be something. */
+    private static String live(EventHall hall, int runs) {
+        StringBuilder all = new StringBuilder();
+        hall.seed(5);
+        for (int i = 0; i < 3; i++) {
+            all.append(hall.start(0, 2 + i, 0, 0, 0)).append(' ');
+        }
+        for (int i = 0; i < runs; i++) {
+            all.append(hall.run(7)).append(' ').append(told(hall)).append('\n');
+        }
+        return all.toString();
+    }
+
+    private static String told(EventHall hall) {
+        StringBuilder all = new StringBuilder();
+        for (int what = 0; what <= 12; what++) {
+            all.append(hall.state(what)).append(' ');
+        }
+        for (int i = 0; i < 14; i++) {
+            for (int what = 0; what < 18; what++) {
+                all.append(hall.process(i, what)).append(' ').append(hall.place(i, what)).append(' ');
+            }
+            all.append(hall.number(i)).append(' ').append(hall.trace(i, 0)).append(' ').append(hall.trace(i, 1)).append(' ');
+            all.append(hall.sum(i, 0)).append(' ').append(hall.sum(i, 1)).append(' ').append(hall.sum(i, 2)).append(' ');
+        }
+        return all.toString();
+    }
+
+    private static void loadMakesAsNew() {
+        String first = live(Due.hall(LIFE), 12);
+        for (int runs = 1; runs <= 14; runs++) {
+            EventHall hall = Due.hall(LIFE);
+            live(hall, runs);
+            Due.feed(hall, LIFE);
+            hall.load();
+            Due.isTrue("the life behind a load amid another, " + runs, live(hall, 12).equals(first));
+        }
+        EventHall hall = Due.hall(LIFE);
+        live(hall, 14);
+        int[] least = {3, 50, 10, 15, 0, 3, 3, 3, 3};
+        for (int what = 0; what < least.length; what++) {
+            Due.isTrue("state(" + what + ") came to be something: " + hall.state(what), hall.state(what) >= least[what]);
+        }
+        Due.feed(hall, LIFE);
+        hall.load();
+        hall.seed(1);
+        Due.isTrue("as new", told(hall).equals(told(Due.hall(LIFE))));
+    }
+
+    /** What was read before takes no room from what is read now. */
+    private static void manyLoads() {
+        EventHall hall = new EventHall();
+        String big = "process p() { start q(); " + repeat("if 0 { } else { }", 100) + " } process q() { " + repeat("hold 1;", 100) + " }";
+        for (int i = 0; i < 9; i++) {
+            Due.feed(hall, big);
+            Due.is("load of a big text", hall.load(), 0);
+            hall.start(0, 0, 0, 0, 0);
+            Due.is("steps of the big text", hall.run(1000), 201);
+            Due.feed(hall, "process r() { say 1; }");
+            Due.is("load of a small text", hall.load(), 0);
+        }
     }
 }

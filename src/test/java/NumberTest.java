@@ -15,6 +15,8 @@ public final class NumberTest {
         secondSides();
         lookingAround();
         divisionsByZero();
+        deepExpressions();
+        longExpressions();
         Due.close();
     }
 
@@ -159,6 +161,32 @@ public final class NumberTest {
         }
         hall.run(100);
         Due.is("two wait for r, three for s, 2 are there, at 2, by 6", hall.number(0), 23_226);
+    }
+
+    /** Each bracket keeps three left sides, behind seven arguments. */
+    private static void deepExpressions() {
+        String expression = "1";
+        for (int i = 0; i < 30; i++) {
+            expression = "2 > 1 + 1 * (" + expression + ")";
+        }
+        worth(expression, 1);
+        EventHall hall = Due.hall("process p() { start q(1, 2, 3, 4, 5, 6, 7, " + expression + " + 8) 1; }"
+                + " process q(a, b, c, d, e, f, g, h) { }");
+        hall.start(0, 0, 0, 0, 0);
+        hall.run(1);
+        for (int i = 0; i < 7; i++) {
+            Due.is("argument", hall.process(1, 10 + i), i + 1);
+        }
+        Due.is("the last argument", hall.process(1, 17), 0);
+        Due.is("the time", hall.process(1, 2), 1);
+    }
+
+    private static void longExpressions() {
+        worth("1" + "+1".repeat(1900), 1901);
+        worth("1" + "-1*1".repeat(900), -899);
+        worth("0" + "||0".repeat(1200) + "||4", 1);
+        worth("1" + "&&1".repeat(1200) + "&&0", 0);
+        worth("1" + "&&0||1".repeat(600), 1);
     }
 
     private static void divisionsByZero() {

@@ -6,6 +6,7 @@ public final class RunTest {
     public static void main(String[] args) {
         refused();
         stepsOfStatements();
+        waysThroughBlocks();
         stepsEndAmidATurn();
         theLastStatementEndsTheProcess();
         turnsWithoutSteps();
@@ -51,6 +52,15 @@ public final class RunTest {
         Due.is("await", steps("await 1; await now == 0; await a;"), 3);
         Due.is("start, wake, stop, say, end", steps("start q(); wake 1; stop 1; say 1; end; say 2;"), 5);
         Due.is("WRONG is a step", steps("say 1 / 0; say 2;"), 1);
+    }
+
+    private static void waysThroughBlocks() {
+        EventHall hall = Due.hall("process p() { if 0 { say 1; } say 2; if 1 { say 3; } say 4; if 0 { say 5; } else { say 6; } say 7;"
+                + " if 1 { if 0 { say 8; } else { say 9; } } else { say 10; } let k = 2; while k { k = k - 1; if k { say 11; } } say 12;"
+                + " while 0 { say 13; } while k < 2 { k = k + 1; while 1 == 2 { } if k == 1 { } else { say 14; end; } say 15; } say 16; }");
+        hall.start(0, 0, 0, 0, 0);
+        hall.run(100);
+        Due.isTrace(hall, 0, 2, 0, 3, 0, 4, 0, 6, 0, 7, 0, 9, 0, 11, 0, 12, 0, 15, 0, 14);
     }
 
     private static void stepsEndAmidATurn() {

@@ -5,6 +5,7 @@ public final class StartTest {
 
     public static void main(String[] args) {
         startFromOutside();
+        letsAreNotGiven();
         startIsRefused();
         startAmidATurn();
         mostProcesses();
@@ -38,6 +39,18 @@ public final class StartTest {
         Due.is("TIME", hall.state(0), 5);
         Due.is("fourth", hall.start(1, 0, 0, 0, 0), 3);
         Due.isProcess(hall, 3, 0, 5, EventHall.NONE, 0, 0, 5);
+    }
+
+    private static void letsAreNotGiven() {
+        String lets = "let e = 1; let f = 1; let g = 1; let h = 1; }";
+        EventHall hall = Due.hall("process p() { " + lets + " process q(a) { " + lets + " process r(a, b) { " + lets
+                + " process s(a, b, c) { " + lets + " process t(a, b, c, d) { " + lets);
+        for (int d = 0; d < 5; d++) {
+            hall.start(d, 1, 2, 3, 4);
+            for (int i = 0; i < d + 4; i++) {
+                Due.is("variable " + i + " of definition " + d, hall.process(d, 10 + i), i < d ? i + 1 : 0);
+            }
+        }
     }
 
     private static void startIsRefused() {
