@@ -1439,7 +1439,7 @@ public final class EventHall {
             if (below < 1) {
                 return WRONG_DRAW;
             }
-            seed = (int) (1_103_515_245L * seed + 12_345L & 0x7fff_ffffL);
+            seed = (int) ((1_103_515_245L * seed + 12_345L) & 0x7fff_ffffL);
             push((seed >> 8) % below);
             return 0;
         }
@@ -1749,7 +1749,7 @@ public final class EventHall {
         }
 
         private void doStep(Proc proc) {
-            steps = steps + 1 & STEPS_MASK;
+            steps = (steps + 1) & STEPS_MASK;
             int act = proc.at;
             proc.at = act + 1;
             int wrong = world.reckon(program, act, proc);

@@ -337,9 +337,9 @@ public final class LoadTest {
     }
 
     private static final String LIFE = "number a; resource r 1; resource t 2; store s 2 5; store u 0 4;"
-            + " process main(n) { let b = n; start wrong(); start waits(b) 1; start waits(2); start tells(); seize r; seize t; hold 3;"
+            + " process main(n) { let b = n; start wrong(); start waits(b) 1; start waits(2); start tells(); start sits(); seize r; seize t; hold 3;"
             + " put u 3; put u 3; say 5; }"
-            + " process tells() { let f = now; say f + 1; }"
+            + " process tells() { let f = now; say f + 1; } process sits() { await a > 1; say me; await a > 9; }"
             + " process wrong() { seize t; hold 1; say 1 / 0; }"
             + " process waits(n) { let c = n + a; let d = me; seize r n; let e = now; a = a + 1; hold 2; get s n; await a > 7; say c; }";
 
@@ -382,7 +382,7 @@ public final class LoadTest {
         }
         EventHall hall = Due.hall(LIFE);
         live(hall, 14);
-        int[] least = {3, 50, 10, 15, 0, 3, 3, 3, 3};
+        int[] least = {3, 50, 10, 18, 0, 6, 3, 3, 3};
         for (int what = 0; what < least.length; what++) {
             Due.isTrue("state(" + what + ") came to be something: " + hall.state(what), hall.state(what) >= least[what]);
         }
@@ -403,6 +403,14 @@ public final class LoadTest {
             Due.is("steps of the big text", hall.run(1000), 201);
             Due.feed(hall, "process r() { say 1; }");
             Due.is("load of a small text", hall.load(), 0);
+        }
+        EventHall other = new EventHall();
+        for (int terms = 1900; terms < 1902; terms++) {
+            Due.feed(other, "process p() { say 0" + repeat("+1", terms) + "; }");
+            Due.is("load of a long expression", other.load(), 0);
+            other.start(0, 0, 0, 0, 0);
+            other.run(5);
+            Due.isTrace(other, 0, terms);
         }
     }
 }
