@@ -269,7 +269,9 @@ public final class EventHall {
             if (next - from > LONGEST_NUMBER) {
                 return add(NO_TOKEN, from, 0);
             }
-            return isLetter(b) ? add(NO_TOKEN, next, 0) : add(DIGITS, from, value);
+            // The NUMBER is a token of its own, whose faults are met before that of the letter behind it.
+            boolean more = add(DIGITS, from, value);
+            return isLetter(b) ? add(NO_TOKEN, next, 0) : more;
         }
 
         private boolean takeSign(int first, int second) {
@@ -342,11 +344,6 @@ public final class EventHall {
         /** The value of a number. */
         int value() {
             return (int) values[current];
-        }
-
-        /** A reserved word is a word too; it is refused by what it is needed for. */
-        boolean isWord() {
-            return kind == WORD || kind >= KEY;
         }
 
         /** Goes on behind a token that must come here. */
@@ -667,7 +664,7 @@ public final class EventHall {
                 case WORD:
                     return program.findValue(tokens.word()) == NONE ? FAULT_UNKNOWN : 0;
                 default:
-                    return tokens.isWord() ? FAULT_UNKNOWN : FAULT_TOKEN;
+                    return FAULT_TOKEN;
             }
         }
 
@@ -681,7 +678,7 @@ public final class EventHall {
         }
 
         private boolean readLook(int key) {
-            if (!tokens.isWord()) {
+            if (tokens.kind != WORD) {
                 return tokens.fail(FAULT_TOKEN);
             }
             int place = program.findPlace(tokens.word(), true, true);
@@ -809,10 +806,11 @@ public final class EventHall {
         }
 
         private boolean checkNewWord(int sort, int most) {
-            if (!tokens.isWord()) {
+            boolean isReserved = tokens.kind >= KEY;
+            if (tokens.kind != WORD && !isReserved) {
                 return tokens.fail(FAULT_TOKEN);
             }
-            if (tokens.kind != WORD || program.isTaken(tokens.word(), sort)) {
+            if (isReserved || program.isTaken(tokens.word(), sort)) {
                 return tokens.fail(FAULT_TAKEN);
             }
             return program.counts[sort] < most || tokens.fail(FAULT_MUCH);
@@ -913,7 +911,7 @@ public final class EventHall {
             if (kind >= KEY_LET && kind <= KEY_END && kind != KEY_ELSE) {
                 return 0;
             }
-            return tokens.isWord() ? FAULT_UNKNOWN : FAULT_TOKEN;
+            return FAULT_TOKEN;
         }
 
         private boolean closeStatement(int act, int target, int from) {
@@ -983,7 +981,7 @@ public final class EventHall {
         }
 
         private boolean readUse(int kind, boolean ofResource) {
-            if (!tokens.isWord()) {
+            if (tokens.kind != WORD) {
                 return tokens.fail(FAULT_TOKEN);
             }
             int place = program.findPlace(tokens.word(), ofResource, !ofResource);
@@ -1001,7 +999,7 @@ public final class EventHall {
         }
 
         private boolean readStart() {
-            if (!tokens.isWord()) {
+            if (tokens.kind != WORD) {
                 return tokens.fail(FAULT_TOKEN);
             }
             long word = tokens.word();

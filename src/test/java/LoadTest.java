@@ -1,5 +1,8 @@
 /** Promise 4: load, its faults and what it sets back. */
 public final class LoadTest {
+    private static final String[] RESERVED = ("resource store number process let if else while hold seize free put get"
+            + " await start stop wake say end now me draw units queue").split(" ");
+
     private LoadTest() {
     }
 
@@ -13,6 +16,8 @@ public final class LoadTest {
         tooDeep();
         argumentsOfStarts();
         theLeastOfOneToken();
+        lettersBehindNumbers();
+        reservedWordsThatCannotCome();
         aFaultReadsNothing();
         loadSetsBack();
         loadMakesAsNew();
@@ -81,8 +86,6 @@ public final class LoadTest {
         faultAtMark("|abcdefghi", 1);
         faultAtMark("process p() { say |1234567890; }", 1);
         faultAtMark("process p() { say |1234567890x; }", 1);
-        faultAtMark("process p() { say 123456789|x; }", 1);
-        faultAtMark("resource r 1|x;", 1);
         faultAtMark("process p() { say 1 |& 2; }", 1);
         fault("process p() { say 1 | 2; }", 1, 20);
         faultAtMark("process p() { say 1 &&|& 2; }", 1);
@@ -143,9 +146,7 @@ public final class LoadTest {
     }
 
     private static void wordsThatAreTaken() {
-        String[] reserved = ("resource store number process let if else while hold seize free put get await start stop"
-                + " wake say end now me draw units queue").split(" ");
-        for (String word : reserved) {
+        for (String word : RESERVED) {
             faultAtMark("number |" + word + ";", 3);
             faultAtMark("process p(|" + word + ") { }", 3);
             faultAtMark("process p() { let |" + word + " = 1; }", 3);
@@ -188,8 +189,6 @@ public final class LoadTest {
         faultAtMark("process p() { await |draw(3); }", 4);
         faultAtMark("process p() { await 1 + (2 * -|draw(3)); }", 4);
         good("process p() { await 1; say draw(3); }");
-        faultAtMark("process p() { say |hold; }", 4);
-        faultAtMark("process p() { |now = 1; }", 4);
     }
 
     private static String repeat(String part, int times) {
@@ -261,7 +260,6 @@ public final class LoadTest {
     }
 
     private static void theLeastOfOneToken() {
-        faultAtMark("1|x", 1);
         faultAtMark("resource |abcdefghi 1;", 1);
         faultAtMark(numbered("resource ", "r", 1, 8, " 1;") + "resource |hold 1;", 3);
         faultAtMark(numbered("resource ", "r", 1, 8, " 1;") + "resource |r1 1;", 3);
@@ -271,7 +269,71 @@ public final class LoadTest {
         faultAtMark("process p() { say " + repeat("(", 31) + "|x; }", 4);
         faultAtMark("process p() { say " + repeat("(", 31) + "|); }", 2);
         faultAtMark("process p() { await " + repeat("(", 31) + "|draw(1); }", 4);
-        faultAtMark("process p() { say " + repeat("(", 31) + "1|x; }", 1);
+    }
+
+    /** A NUMBER's own faults come before that of the letter behind it, which stands at a later place. */
+    private static void lettersBehindNumbers() {
+        faultAtMark("process p() { say 123456789|x; }", 1);
+        faultAtMark("resource r 1|x;", 1);
+        faultAtMark("store s 1|store 2;", 1);
+        faultAtMark("store s 1 2|A", 1);
+        faultAtMark("process p() { if 1|Z { } }", 1);
+        faultAtMark("process p() { hold 0|x10; }", 1);
+        faultAtMark("process p() { say " + repeat("(", 30) + "1|x; }", 1);
+        faultAtMark("process p(a) { start p(1|a); }", 1);
+        faultAtMark("|2X", 2);
+        faultAtMark("number |1a;", 2);
+        faultAtMark("number a |1a;", 2);
+        faultAtMark("process p() { |1x = 2; }", 2);
+        faultAtMark("process p() { say 1 |1x; }", 2);
+        faultAtMark("resource r |0x;", 5);
+        faultAtMark("resource r |100x;", 5);
+        faultAtMark("store s 5 |4x;", 5);
+        faultAtMark("process p() { say " + repeat("(", 31) + "|1x; }", 5);
+        faultAtMark("|1234567890x", 1);
+        faultAtMark("resource r |1234567890x;", 1);
+    }
+
+    private static boolean isOneOf(String word, String words) {
+        return (" " + words + " ").contains(" " + word + " ");
+    }
+
+    /** Where no word is told, a RESERVED one that the grammar doesn't have there can't come. */
+    private static void reservedWordsThatCannotCome() {
+        String items = "resource store number process";
+        String statements = "let if while hold seize free put get await start stop wake say end";
+        String places = "resource r 1; store s 0 1; number a; process p() { ";
+        for (String word : RESERVED) {
+            if (!isOneOf(word, items)) {
+                faultAtMark("|" + word, 2);
+                faultAtMark("number a; |" + word + " 1;", 2);
+            }
+            if (!isOneOf(word, statements)) {
+                faultAtMark("process p() {|" + word, 2);
+                faultAtMark("process p() { |" + word + " = 1; }", 2);
+                faultAtMark("process p() { " + repeat("end;", 250) + " |" + word, 2);
+            }
+            if (!isOneOf(word, "now me draw units queue")) {
+                faultAtMark("number a; process p(){ a = (((((((((((((|" + word, 2);
+                faultAtMark("process p() { say |" + word + "; }", 2);
+                faultAtMark("process p() { say 1 + |" + word + "; }", 2);
+                faultAtMark("process p() { await |" + word + "; }", 2);
+                faultAtMark("process p() { start p(|" + word + "); }", 2);
+                faultAtMark("process p() { say " + repeat("(", 31) + "|" + word + "; }", 2);
+                faultAtMark(places + "seize r |" + word + "; }", 2);
+            }
+            for (String before : new String[] {"seize", "free", "put", "get", "say units", "say queue", "start"}) {
+                faultAtMark(places + before + " |" + word + "() 1; }", 2);
+            }
+            faultAtMark("number a |" + word + ";", 2);
+            faultAtMark("resource r |" + word + ";", 2);
+            faultAtMark("process p |" + word + "() { }", 2);
+            faultAtMark("process p(a |" + word + ") { }", 2);
+            faultAtMark("process p() |" + word + " { }", 2);
+            faultAtMark("process p() { say 1 |" + word + "; }", 2);
+            faultAtMark("process p() { end |" + word + "; }", 2);
+            faultAtMark("process p() { let a |" + word + " 1; }", 2);
+        }
     }
 
     private static void aFaultReadsNothing() {
