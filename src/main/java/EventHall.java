@@ -336,6 +336,15 @@ public final class EventHall {
             return places[current];
         }
 
+        /** Where the grammar has a WORD alone, a reserved one is a WORD too. */
+        boolean isAnyWord() {
+            return kind == WORD || isReserved();
+        }
+
+        boolean isReserved() {
+            return kind >= KEY;
+        }
+
         /** The bytes of a word. */
         long word() {
             return values[current];
@@ -678,7 +687,7 @@ public final class EventHall {
         }
 
         private boolean readLook(int key) {
-            if (tokens.kind != WORD) {
+            if (!tokens.isAnyWord()) {
                 return tokens.fail(FAULT_TOKEN);
             }
             int place = program.findPlace(tokens.word(), true, true);
@@ -806,11 +815,10 @@ public final class EventHall {
         }
 
         private boolean checkNewWord(int sort, int most) {
-            boolean isReserved = tokens.kind >= KEY;
-            if (tokens.kind != WORD && !isReserved) {
+            if (!tokens.isAnyWord()) {
                 return tokens.fail(FAULT_TOKEN);
             }
-            if (isReserved || program.isTaken(tokens.word(), sort)) {
+            if (tokens.isReserved() || program.isTaken(tokens.word(), sort)) {
                 return tokens.fail(FAULT_TAKEN);
             }
             return program.counts[sort] < most || tokens.fail(FAULT_MUCH);
@@ -981,7 +989,7 @@ public final class EventHall {
         }
 
         private boolean readUse(int kind, boolean ofResource) {
-            if (tokens.kind != WORD) {
+            if (!tokens.isAnyWord()) {
                 return tokens.fail(FAULT_TOKEN);
             }
             int place = program.findPlace(tokens.word(), ofResource, !ofResource);
@@ -999,7 +1007,7 @@ public final class EventHall {
         }
 
         private boolean readStart() {
-            if (tokens.kind != WORD) {
+            if (!tokens.isAnyWord()) {
                 return tokens.fail(FAULT_TOKEN);
             }
             long word = tokens.word();

@@ -18,6 +18,7 @@ public final class LoadTest {
         theLeastOfOneToken();
         lettersBehindNumbers();
         reservedWordsThatCannotCome();
+        reservedWordsThatAreWords();
         aFaultReadsNothing();
         loadSetsBack();
         loadMakesAsNew();
@@ -298,11 +299,10 @@ public final class LoadTest {
         return (" " + words + " ").contains(" " + word + " ");
     }
 
-    /** Where no word is told, a RESERVED one that the grammar doesn't have there can't come. */
+    /** Where the grammar has words in quotes beside WORD, or no WORD, a RESERVED one that it doesn't have can't come. */
     private static void reservedWordsThatCannotCome() {
         String items = "resource store number process";
         String statements = "let if while hold seize free put get await start stop wake say end";
-        String places = "resource r 1; store s 0 1; number a; process p() { ";
         for (String word : RESERVED) {
             if (!isOneOf(word, items)) {
                 faultAtMark("|" + word, 2);
@@ -320,10 +320,7 @@ public final class LoadTest {
                 faultAtMark("process p() { await |" + word + "; }", 2);
                 faultAtMark("process p() { start p(|" + word + "); }", 2);
                 faultAtMark("process p() { say " + repeat("(", 31) + "|" + word + "; }", 2);
-                faultAtMark(places + "seize r |" + word + "; }", 2);
-            }
-            for (String before : new String[] {"seize", "free", "put", "get", "say units", "say queue", "start"}) {
-                faultAtMark(places + before + " |" + word + "() 1; }", 2);
+                faultAtMark("resource r 1; process p() { seize r |" + word + "; }", 2);
             }
             faultAtMark("number a |" + word + ";", 2);
             faultAtMark("resource r |" + word + ";", 2);
@@ -333,6 +330,28 @@ public final class LoadTest {
             faultAtMark("process p() { say 1 |" + word + "; }", 2);
             faultAtMark("process p() { end |" + word + "; }", 2);
             faultAtMark("process p() { let a |" + word + " 1; }", 2);
+        }
+    }
+
+    /** Where the grammar has a WORD alone, a RESERVED one is a WORD: of no place, of no process. */
+    private static void reservedWordsThatAreWords() {
+        String before = "resource r 1; store s 0 1; number a; process p() { ";
+        for (String word : RESERVED) {
+            for (String use : new String[] {"seize", "free", "put", "get", "say units", "say queue", "await 1 + queue"}) {
+                faultAtMark(before + use + " |" + word + " 1; }", 4);
+                faultAtMark(before + use + " |" + word, 4);
+                faultAtMark(before + use + " |" + word + "\0", 4);
+            }
+            faultAtMark(before + "start |" + word + "(); }", 6);
+            faultAtMark(before + "start |" + word + "(1, a) 5; start q(); }", 6);
+            faultAtMark(before + "start q(); start |" + word + "(); } process q() { }", 6);
+            faultAtMark(before + "start " + word + "(|\0", 1);
+            faultAtMark(before + "start " + word + "|;", 2);
+            faultAtMark(before + "start " + word + "|", 2);
+            faultAtMark(before + "start " + word + "() |x; }", 4);
+            faultAtMark(before + "start " + word + "() |) }", 2);
+            faultAtMark(before + "start " + word + "(); } number |a;", 3);
+            faultAtMark(before + "start " + word + "(); } process |" + word + "() { }", 3);
         }
     }
 
