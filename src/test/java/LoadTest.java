@@ -1,8 +1,5 @@
 /** Promise 4: load, its faults and what it sets back. */
 public final class LoadTest {
-    private static final String[] RESERVED = ("resource store number process let if else while hold seize free put get"
-            + " await start stop wake say end now me draw units queue").split(" ");
-
     private LoadTest() {
     }
 
@@ -26,50 +23,30 @@ public final class LoadTest {
         Due.close();
     }
 
-    /** The fault of a text and its place; place is BAD for fault 0. */
-    private static void fault(String text, int number, int place) {
-        EventHall hall = new EventHall();
-        Due.feed(hall, text);
-        Due.is("load of " + text, hall.load(), number);
-        Due.is("state(11) of " + text, hall.state(11), number);
-        Due.is("state(12) of " + text, hall.state(12), place);
-        Due.is("TIME of " + text, hall.state(0), number == 0 ? 0 : EventHall.BAD);
-    }
-
-    /** As above, the place being where the mark | stands in the text. */
-    private static void faultAtMark(String marked, int number) {
-        int place = marked.indexOf('|');
-        fault(marked.substring(0, place) + marked.substring(place + 1), number, place);
-    }
-
-    private static void good(String text) {
-        fault(text, 0, EventHall.BAD);
-    }
-
     private static void goodTexts() {
-        good("");
-        good(" \t\r\n");
-        good("# only a remark");
-        good("#\n#");
-        good("number a;#x\nnumber b;");
-        good("resource r 1;resource s 99;");
-        good("store s 0 1; store t 9999 9999; store u 0 9999;");
-        good("number a, b1, C, abcdefgh;");
-        good("number holds, Hold, HOLD, rel, wait;");
-        good("number a, z, A, Z, a0, z9, AZ09az;");
-        good("process p() { }");
-        good("process p(a,b,c,d,e,f,g,h) { start p(1,2,3,4,5,6,7,a) 2; }");
-        good("process p() { start q(1); } process q(x) { start p(); }");
-        good("process p(q) { start q(); } process q() { }");
-        good("number g; process p(g) { g = 1; } process q() { let g = g + 1; g = g; }");
-        good("process p(a) { } process q(a) { let b = a; } number a; resource b 1;");
-        good("process p() { if 1 { let a = 1; } else { a = 2; } say a; }");
-        good("process p() { say 000000001 == 1; say 999999999; }");
-        good("process p() { say 1 - -1; say !!1 != !0; say -(-1) <= 2; say 1 < 2 && 2 < 3 || 0; }");
-        good("resource r 1; store s 0 1; process p() { seize r; seize r -1; free r; put s 1; get s 1; }");
-        good("resource r 1; store s 0 1; process p() { await units r + queue s > now * me; wake me; stop me; end; }");
-        good("process p() { hold draw(3) + draw((2)); while 0 { } if 1 { } if 0 { } else { } }");
-        good("resource r 1; process p(a) { await 1; if draw(2) { } await 1; while draw(2) { } await 1; let b = draw(2);"
+        Texts.good("");
+        Texts.good(" \t\r\n");
+        Texts.good("# only a remark");
+        Texts.good("#\n#");
+        Texts.good("number a;#x\nnumber b;");
+        Texts.good("resource r 1;resource s 99;");
+        Texts.good("store s 0 1; store t 9999 9999; store u 0 9999;");
+        Texts.good("number a, b1, C, abcdefgh;");
+        Texts.good("number holds, Hold, HOLD, rel, wait;");
+        Texts.good("number a, z, A, Z, a0, z9, AZ09az;");
+        Texts.good("process p() { }");
+        Texts.good("process p(a,b,c,d,e,f,g,h) { start p(1,2,3,4,5,6,7,a) 2; }");
+        Texts.good("process p() { start q(1); } process q(x) { start p(); }");
+        Texts.good("process p(q) { start q(); } process q() { }");
+        Texts.good("number g; process p(g) { g = 1; } process q() { let g = g + 1; g = g; }");
+        Texts.good("process p(a) { } process q(a) { let b = a; } number a; resource b 1;");
+        Texts.good("process p() { if 1 { let a = 1; } else { a = 2; } say a; }");
+        Texts.good("process p() { say 000000001 == 1; say 999999999; }");
+        Texts.good("process p() { say 1 - -1; say !!1 != !0; say -(-1) <= 2; say 1 < 2 && 2 < 3 || 0; }");
+        Texts.good("resource r 1; store s 0 1; process p() { seize r; seize r -1; free r; put s 1; get s 1; }");
+        Texts.good("resource r 1; store s 0 1; process p() { await units r + queue s > now * me; wake me; stop me; end; }");
+        Texts.good("process p() { hold draw(3) + draw((2)); while 0 { } if 1 { } if 0 { } else { } }");
+        Texts.good("resource r 1; process p(a) { await 1; if draw(2) { } await 1; while draw(2) { } await 1; let b = draw(2);"
                 + " await 1; a = draw(2); await 1; seize r draw(2); await 1; start p(draw(2)) draw(2); }");
         Due.is("behind a remark", Due.hall("number a;# number b;\nnumber c;").number(1), 0);
         Due.is("in a remark", Due.hall("number a;# number b;\nnumber c;").number(2), -2_000_000_000);
@@ -80,219 +57,207 @@ public final class LoadTest {
             boolean begins = c < 128 && " \t\n\r#(){},;=+-*/%<>!".indexOf(c) >= 0;
             boolean isWordByte = c < 128 && Character.isLetterOrDigit(c);
             if (!begins && !isWordByte) {
-                fault("number a;" + c, 1, 9);
+                Texts.fault("number a;" + c, 1, 9);
             }
         }
-        faultAtMark("number |abcdefghi;", 1);
-        faultAtMark("|abcdefghi", 1);
-        faultAtMark("process p() { say |1234567890; }", 1);
-        faultAtMark("process p() { say |1234567890x; }", 1);
-        faultAtMark("process p() { say 1 |& 2; }", 1);
-        fault("process p() { say 1 | 2; }", 1, 20);
-        faultAtMark("process p() { say 1 &&|& 2; }", 1);
-        fault("process p() { say 1 ||| 2; }", 1, 22);
-        faultAtMark("number a|_b;", 1);
-        faultAtMark("number a; |\"", 1);
+        Texts.faultAtMark("number |abcdefghi;", 1);
+        Texts.faultAtMark("|abcdefghi", 1);
+        Texts.faultAtMark("process p() { say |1234567890; }", 1);
+        Texts.faultAtMark("process p() { say |1234567890x; }", 1);
+        Texts.faultAtMark("process p() { say 1 |& 2; }", 1);
+        Texts.fault("process p() { say 1 | 2; }", 1, 20);
+        Texts.faultAtMark("process p() { say 1 &&|& 2; }", 1);
+        Texts.fault("process p() { say 1 ||| 2; }", 1, 22);
+        Texts.faultAtMark("number a|_b;", 1);
+        Texts.faultAtMark("number a; |\"", 1);
     }
 
     private static void tokensThatCannotCome() {
-        faultAtMark("|x", 2);
-        faultAtMark("# number $ \n |x", 2);
-        faultAtMark("number a;#\r x\n#\n\n |x", 2);
-        faultAtMark("|;", 2);
-        faultAtMark("|hold 1;", 2);
-        faultAtMark("|7", 2);
-        faultAtMark("resource|", 2);
-        faultAtMark("resource |5 r;", 2);
-        faultAtMark("resource r |s;", 2);
-        faultAtMark("resource r |;", 2);
-        faultAtMark("resource r 1 # more \n |", 2);
-        faultAtMark("resource r 1|, s 1;", 2);
-        faultAtMark("resource r |-1;", 2);
-        faultAtMark("store s 1 |;", 2);
-        faultAtMark("number a b;".replace(" b", " |b"), 2);
-        faultAtMark("number |;", 2);
-        faultAtMark("number a, |;", 2);
-        faultAtMark("process p |{ }", 2);
-        faultAtMark("process p(|,) { }", 2);
-        faultAtMark("process p(a |b) { }", 2);
-        faultAtMark("process p(a, |) { }", 2);
-        faultAtMark("process p() |;", 2);
-        faultAtMark("process p() { |", 2);
-        faultAtMark("process p() { } |}", 2);
-        faultAtMark("process p() { |; }", 2);
-        faultAtMark("process p() { |1 = 2; }", 2);
-        faultAtMark("process p(a) { a |== 2; }", 2);
-        faultAtMark("process p(a) { a = |; }", 2);
-        faultAtMark("process p(a) { a = 1 |}", 2);
-        faultAtMark("process p() { let |= 2; }", 2);
-        faultAtMark("process p() { if 1 |say 1; }", 2);
-        faultAtMark("process p() { if |{ } }", 2);
-        faultAtMark("process p() { if 1 { } else |if 1 { } }", 2);
-        faultAtMark("process p() { end |1; }", 2);
-        faultAtMark("process p() { say (1|; }", 2);
-        faultAtMark("process p() { say 1|); }", 2);
-        faultAtMark("process p() { say 1 < 2 |< 3; }", 2);
-        faultAtMark("process p() { say |* 2; }", 2);
-        faultAtMark("process p() { say |+ 2; }", 2);
-        faultAtMark("process p() { say draw |3; }", 2);
-        faultAtMark("process p() { say units |3; }", 2);
-        faultAtMark("process p() { start |(); }", 2);
-        faultAtMark("process p() { start p|; }", 2);
-        faultAtMark("process p() { start p(|,); }", 2);
-        faultAtMark("process p(a) { start p(1 |2); }", 2);
-        faultAtMark("resource r 1; process p() { free r |1; }", 2);
-        faultAtMark("resource r 1; process p() { seize |1; }", 2);
-        faultAtMark("store s 0 1; process p() { put s |; }", 2);
+        Texts.faultAtMark("|x", 2);
+        Texts.faultAtMark("# number $ \n |x", 2);
+        Texts.faultAtMark("number a;#\r x\n#\n\n |x", 2);
+        Texts.faultAtMark("|;", 2);
+        Texts.faultAtMark("|hold 1;", 2);
+        Texts.faultAtMark("|7", 2);
+        Texts.faultAtMark("resource|", 2);
+        Texts.faultAtMark("resource |5 r;", 2);
+        Texts.faultAtMark("resource r |s;", 2);
+        Texts.faultAtMark("resource r |;", 2);
+        Texts.faultAtMark("resource r 1 # more \n |", 2);
+        Texts.faultAtMark("resource r 1|, s 1;", 2);
+        Texts.faultAtMark("resource r |-1;", 2);
+        Texts.faultAtMark("store s 1 |;", 2);
+        Texts.faultAtMark("number a b;".replace(" b", " |b"), 2);
+        Texts.faultAtMark("number |;", 2);
+        Texts.faultAtMark("number a, |;", 2);
+        Texts.faultAtMark("process p |{ }", 2);
+        Texts.faultAtMark("process p(|,) { }", 2);
+        Texts.faultAtMark("process p(a |b) { }", 2);
+        Texts.faultAtMark("process p(a, |) { }", 2);
+        Texts.faultAtMark("process p() |;", 2);
+        Texts.faultAtMark("process p() { |", 2);
+        Texts.faultAtMark("process p() { } |}", 2);
+        Texts.faultAtMark("process p() { |; }", 2);
+        Texts.faultAtMark("process p() { |1 = 2; }", 2);
+        Texts.faultAtMark("process p(a) { a |== 2; }", 2);
+        Texts.faultAtMark("process p(a) { a = |; }", 2);
+        Texts.faultAtMark("process p(a) { a = 1 |}", 2);
+        Texts.faultAtMark("process p() { let |= 2; }", 2);
+        Texts.faultAtMark("process p() { if 1 |say 1; }", 2);
+        Texts.faultAtMark("process p() { if |{ } }", 2);
+        Texts.faultAtMark("process p() { if 1 { } else |if 1 { } }", 2);
+        Texts.faultAtMark("process p() { end |1; }", 2);
+        Texts.faultAtMark("process p() { say (1|; }", 2);
+        Texts.faultAtMark("process p() { say 1|); }", 2);
+        Texts.faultAtMark("process p() { say 1 < 2 |< 3; }", 2);
+        Texts.faultAtMark("process p() { say |* 2; }", 2);
+        Texts.faultAtMark("process p() { say |+ 2; }", 2);
+        Texts.faultAtMark("process p() { say draw |3; }", 2);
+        Texts.faultAtMark("process p() { say units |3; }", 2);
+        Texts.faultAtMark("process p() { start |(); }", 2);
+        Texts.faultAtMark("process p() { start p|; }", 2);
+        Texts.faultAtMark("process p() { start p(|,); }", 2);
+        Texts.faultAtMark("process p(a) { start p(1 |2); }", 2);
+        Texts.faultAtMark("resource r 1; process p() { free r |1; }", 2);
+        Texts.faultAtMark("resource r 1; process p() { seize |1; }", 2);
+        Texts.faultAtMark("store s 0 1; process p() { put s |; }", 2);
     }
 
     private static void wordsThatAreTaken() {
-        for (String word : RESERVED) {
-            faultAtMark("number |" + word + ";", 3);
-            faultAtMark("process p(|" + word + ") { }", 3);
-            faultAtMark("process p() { let |" + word + " = 1; }", 3);
+        for (String word : Texts.RESERVED) {
+            Texts.faultAtMark("number |" + word + ";", 3);
+            Texts.faultAtMark("process p(|" + word + ") { }", 3);
+            Texts.faultAtMark("process p() { let |" + word + " = 1; }", 3);
         }
-        faultAtMark("resource |hold 1;", 3);
-        faultAtMark("store |say 0 1;", 3);
-        faultAtMark("process |end() { }", 3);
-        faultAtMark("number a, |a;", 3);
-        faultAtMark("number a; resource |a 1;", 3);
-        faultAtMark("resource a 1; store |a 0 1;", 3);
-        faultAtMark("store a 0 1; process |a() { }", 3);
-        faultAtMark("process a() { } number |a;", 3);
-        faultAtMark("process a() { } process |a() { }", 3);
-        faultAtMark("process p(|p) { }", 3);
-        faultAtMark("process p() { let |p = 1; }", 3);
-        faultAtMark("process p(a, |a) { }", 3);
-        faultAtMark("process p(a) { let |a = 1; }", 3);
-        faultAtMark("process p() { if 1 { let a = 1; } else { let |a = 1; } }", 3);
-        faultAtMark("resource r 1; process p(|r) { }", 3);
-        faultAtMark("store s 0 1; process p() { let |s = 1; }", 3);
+        Texts.faultAtMark("resource |hold 1;", 3);
+        Texts.faultAtMark("store |say 0 1;", 3);
+        Texts.faultAtMark("process |end() { }", 3);
+        Texts.faultAtMark("number a, |a;", 3);
+        Texts.faultAtMark("number a; resource |a 1;", 3);
+        Texts.faultAtMark("resource a 1; store |a 0 1;", 3);
+        Texts.faultAtMark("store a 0 1; process |a() { }", 3);
+        Texts.faultAtMark("process a() { } number |a;", 3);
+        Texts.faultAtMark("process a() { } process |a() { }", 3);
+        Texts.faultAtMark("process p(|p) { }", 3);
+        Texts.faultAtMark("process p() { let |p = 1; }", 3);
+        Texts.faultAtMark("process p(a, |a) { }", 3);
+        Texts.faultAtMark("process p(a) { let |a = 1; }", 3);
+        Texts.faultAtMark("process p() { if 1 { let a = 1; } else { let |a = 1; } }", 3);
+        Texts.faultAtMark("resource r 1; process p(|r) { }", 3);
+        Texts.faultAtMark("store s 0 1; process p() { let |s = 1; }", 3);
     }
 
     private static void wordsThatAreNone() {
-        faultAtMark("process p() { |x = 1; }", 4);
-        faultAtMark("process p() { |x & 1; }", 4);
-        faultAtMark("process p() { say |x; }", 4);
-        faultAtMark("process p() { let a = |a; }", 4);
-        faultAtMark("process p() { say |a; let a = 1; }", 4);
-        faultAtMark("process p(a) { } process q() { say |a; }", 4);
-        faultAtMark("process p() { say |a; } number a;", 4);
-        faultAtMark("process p() { say |p; }", 4);
-        faultAtMark("resource r 1; process p() { |r = 1; }", 4);
-        faultAtMark("resource r 1; process p() { say |r; }", 4);
-        faultAtMark("resource r 1; process p() { put |r 1; }", 4);
-        faultAtMark("resource r 1; process p() { get |r 1; }", 4);
-        faultAtMark("store s 0 1; process p() { seize |s; }", 4);
-        faultAtMark("store s 0 1; process p() { free |s; }", 4);
-        faultAtMark("number n; process p() { say units |n; }", 4);
-        faultAtMark("number n; process p() { say queue |n; }", 4);
-        faultAtMark("process p() { await |draw(3); }", 4);
-        faultAtMark("process p() { await 1 + (2 * -|draw(3)); }", 4);
-        good("process p() { await 1; say draw(3); }");
-    }
-
-    private static String repeat(String part, int times) {
-        return part.repeat(times);
-    }
-
-    private static String numbered(String before, String letter, int from, int to, String behind) {
-        StringBuilder all = new StringBuilder();
-        for (int i = from; i <= to; i++) {
-            all.append(before).append(letter).append(i).append(behind);
-        }
-        return all.toString();
+        Texts.faultAtMark("process p() { |x = 1; }", 4);
+        Texts.faultAtMark("process p() { |x & 1; }", 4);
+        Texts.faultAtMark("process p() { say |x; }", 4);
+        Texts.faultAtMark("process p() { let a = |a; }", 4);
+        Texts.faultAtMark("process p() { say |a; let a = 1; }", 4);
+        Texts.faultAtMark("process p(a) { } process q() { say |a; }", 4);
+        Texts.faultAtMark("process p() { say |a; } number a;", 4);
+        Texts.faultAtMark("process p() { say |p; }", 4);
+        Texts.faultAtMark("resource r 1; process p() { |r = 1; }", 4);
+        Texts.faultAtMark("resource r 1; process p() { say |r; }", 4);
+        Texts.faultAtMark("resource r 1; process p() { put |r 1; }", 4);
+        Texts.faultAtMark("resource r 1; process p() { get |r 1; }", 4);
+        Texts.faultAtMark("store s 0 1; process p() { seize |s; }", 4);
+        Texts.faultAtMark("store s 0 1; process p() { free |s; }", 4);
+        Texts.faultAtMark("number n; process p() { say units |n; }", 4);
+        Texts.faultAtMark("number n; process p() { say queue |n; }", 4);
+        Texts.faultAtMark("process p() { await |draw(3); }", 4);
+        Texts.faultAtMark("process p() { await 1 + (2 * -|draw(3)); }", 4);
+        Texts.good("process p() { await 1; say draw(3); }");
     }
 
     private static void tooMuch() {
-        faultAtMark("resource r |0;", 5);
-        faultAtMark("resource r |100;", 5);
-        faultAtMark("store s |10000 10000;", 5);
-        faultAtMark("store s 0 |10000;", 5);
-        faultAtMark("store s 0 |0;", 5);
-        faultAtMark("store s 5 |4;", 5);
-        good(numbered("resource ", "r", 1, 8, " 1;"));
-        faultAtMark(numbered("resource ", "r", 1, 8, " 1;") + "resource |r9 1;", 5);
-        good(numbered("store ", "s", 1, 6, " 0 1;"));
-        faultAtMark(numbered("store ", "s", 1, 6, " 0 1;") + "store |s7 0 1;", 5);
-        good("number n" + numbered(", ", "n", 2, 16, "") + ";");
-        faultAtMark("number n" + numbered(", ", "n", 2, 16, "") + ", |n17;", 5);
-        faultAtMark("number n" + numbered(", ", "n", 2, 16, "") + "; number |n17;", 5);
-        good(numbered("process ", "p", 1, 12, "() { }"));
-        faultAtMark(numbered("process ", "p", 1, 12, "() { }") + "process |p13() { }", 5);
-        faultAtMark("process p(a" + numbered(", ", "a", 2, 8, "") + ", |a9) { }", 5);
-        good("process p(a, b) { " + numbered("let ", "a", 3, 8, " = 1;") + " }");
-        faultAtMark("process p(a, b) { " + numbered("let ", "a", 3, 8, " = 1;") + "let |a9 = 1; }", 5);
-        good("process p() { " + repeat("end;", 250) + " }");
-        faultAtMark("process p() { " + repeat("end;", 250) + " |end; }", 5);
-        good("process p() { " + repeat("end;", 125) + " } process q() { " + repeat("if 1 { }", 125) + " }");
-        faultAtMark("process p() { " + repeat("end;", 125) + " } process q() { " + repeat("while 0 { }", 124)
+        Texts.faultAtMark("resource r |0;", 5);
+        Texts.faultAtMark("resource r |100;", 5);
+        Texts.faultAtMark("store s |10000 10000;", 5);
+        Texts.faultAtMark("store s 0 |10000;", 5);
+        Texts.faultAtMark("store s 0 |0;", 5);
+        Texts.faultAtMark("store s 5 |4;", 5);
+        Texts.good(Texts.numbered("resource ", "r", 1, 8, " 1;"));
+        Texts.faultAtMark(Texts.numbered("resource ", "r", 1, 8, " 1;") + "resource |r9 1;", 5);
+        Texts.good(Texts.numbered("store ", "s", 1, 6, " 0 1;"));
+        Texts.faultAtMark(Texts.numbered("store ", "s", 1, 6, " 0 1;") + "store |s7 0 1;", 5);
+        Texts.good("number n" + Texts.numbered(", ", "n", 2, 16, "") + ";");
+        Texts.faultAtMark("number n" + Texts.numbered(", ", "n", 2, 16, "") + ", |n17;", 5);
+        Texts.faultAtMark("number n" + Texts.numbered(", ", "n", 2, 16, "") + "; number |n17;", 5);
+        Texts.good(Texts.numbered("process ", "p", 1, 12, "() { }"));
+        Texts.faultAtMark(Texts.numbered("process ", "p", 1, 12, "() { }") + "process |p13() { }", 5);
+        Texts.faultAtMark("process p(a" + Texts.numbered(", ", "a", 2, 8, "") + ", |a9) { }", 5);
+        Texts.good("process p(a, b) { " + Texts.numbered("let ", "a", 3, 8, " = 1;") + " }");
+        Texts.faultAtMark("process p(a, b) { " + Texts.numbered("let ", "a", 3, 8, " = 1;") + "let |a9 = 1; }", 5);
+        Texts.good("process p() { " + "end;".repeat(250) + " }");
+        Texts.faultAtMark("process p() { " + "end;".repeat(250) + " |end; }", 5);
+        Texts.good("process p() { " + "end;".repeat(125) + " } process q() { " + "if 1 { }".repeat(125) + " }");
+        Texts.faultAtMark("process p() { " + "end;".repeat(125) + " } process q() { " + "while 0 { }".repeat(124)
                 + " if 1 { |say 1; } }", 5);
     }
 
     private static void tooDeep() {
-        good("process p() { " + repeat("if 1 { ", 9) + repeat("} ", 9) + "}");
-        faultAtMark("process p() { " + repeat("if 1 { ", 9) + "if 1 |{ } " + repeat("} ", 9) + "}", 5);
-        faultAtMark("process p() { " + repeat("while 1 { ", 9) + "if 1 |say 1; " + repeat("} ", 9) + "}", 2);
-        good("process p() { " + repeat("if 1 { } else { ", 9) + "say 1;" + repeat("} ", 9) + "}");
-        good("process p() { say " + repeat("(", 30) + "1" + repeat(")", 30) + "; }");
-        faultAtMark("process p() { say " + repeat("(", 31) + "|1" + repeat(")", 31) + "; }", 5);
-        good("process p() { say " + repeat("-", 30) + "1; }");
-        faultAtMark("process p() { say " + repeat("!", 31) + "|1; }", 5);
-        good("process p() { say " + repeat("draw(", 30) + "1" + repeat(")", 30) + "; }");
-        faultAtMark("process p() { say " + repeat("draw(", 31) + "|me" + repeat(")", 31) + "; }", 5);
-        good("process p() { say " + repeat("1 + (2 * ", 30) + "1" + repeat(")", 30) + "; }");
-        good("process p() { say 1" + repeat("+1", 1980) + "; }");
-        good("process p() { say 1" + repeat("||1", 1320) + "; }");
+        Texts.good("process p() { " + "if 1 { ".repeat(9) + "} ".repeat(9) + "}");
+        Texts.faultAtMark("process p() { " + "if 1 { ".repeat(9) + "if 1 |{ } " + "} ".repeat(9) + "}", 5);
+        Texts.faultAtMark("process p() { " + "while 1 { ".repeat(9) + "if 1 |say 1; " + "} ".repeat(9) + "}", 2);
+        Texts.good("process p() { " + "if 1 { } else { ".repeat(9) + "say 1;" + "} ".repeat(9) + "}");
+        Texts.good("process p() { say " + "(".repeat(30) + "1" + ")".repeat(30) + "; }");
+        Texts.faultAtMark("process p() { say " + "(".repeat(31) + "|1" + ")".repeat(31) + "; }", 5);
+        Texts.good("process p() { say " + "-".repeat(30) + "1; }");
+        Texts.faultAtMark("process p() { say " + "!".repeat(31) + "|1; }", 5);
+        Texts.good("process p() { say " + "draw(".repeat(30) + "1" + ")".repeat(30) + "; }");
+        Texts.faultAtMark("process p() { say " + "draw(".repeat(31) + "|me" + ")".repeat(31) + "; }", 5);
+        Texts.good("process p() { say " + "1 + (2 * ".repeat(30) + "1" + ")".repeat(30) + "; }");
+        Texts.good("process p() { say 1" + "+1".repeat(1980) + "; }");
+        Texts.good("process p() { say 1" + "||1".repeat(1320) + "; }");
     }
 
     private static void argumentsOfStarts() {
-        faultAtMark("process p() { start p(1|); }", 6);
-        faultAtMark("process p(a) { start p(|); }", 6);
-        faultAtMark("process p(a, b) { } process q() { start p(1, 2, 3|) 4; }", 6);
-        faultAtMark("process p() { start |q(); }", 6);
-        faultAtMark("process p() { start |q(); } process q(a) { }", 6);
-        faultAtMark("process p() { start |q(1); start r(); }", 6);
-        faultAtMark("process p() { start q(1); start |r(); } process q(a) { }", 6);
-        faultAtMark("process p() { start q(); say |x; }", 4);
-        faultAtMark("resource r 1; process p() { start |r(); }", 6);
-        faultAtMark("process p() { start |q(); } number q;", 6);
-        faultAtMark("process p() { start |q(1,2,3,4,5,6,7,8,9); }", 6);
+        Texts.faultAtMark("process p() { start p(1|); }", 6);
+        Texts.faultAtMark("process p(a) { start p(|); }", 6);
+        Texts.faultAtMark("process p(a, b) { } process q() { start p(1, 2, 3|) 4; }", 6);
+        Texts.faultAtMark("process p() { start |q(); }", 6);
+        Texts.faultAtMark("process p() { start |q(); } process q(a) { }", 6);
+        Texts.faultAtMark("process p() { start |q(1); start r(); }", 6);
+        Texts.faultAtMark("process p() { start q(1); start |r(); } process q(a) { }", 6);
+        Texts.faultAtMark("process p() { start q(); say |x; }", 4);
+        Texts.faultAtMark("resource r 1; process p() { start |r(); }", 6);
+        Texts.faultAtMark("process p() { start |q(); } number q;", 6);
+        Texts.faultAtMark("process p() { start |q(1,2,3,4,5,6,7,8,9); }", 6);
     }
 
     private static void theLeastOfOneToken() {
-        faultAtMark("resource |abcdefghi 1;", 1);
-        faultAtMark(numbered("resource ", "r", 1, 8, " 1;") + "resource |hold 1;", 3);
-        faultAtMark(numbered("resource ", "r", 1, 8, " 1;") + "resource |r1 1;", 3);
-        faultAtMark(numbered("resource ", "r", 1, 8, " 1;") + "resource |1 1;", 2);
-        faultAtMark("process p() { " + repeat("end;", 250) + " |x = 1; }", 4);
-        faultAtMark("process p() { " + repeat("end;", 250) + " |5; }", 2);
-        faultAtMark("process p() { say " + repeat("(", 31) + "|x; }", 4);
-        faultAtMark("process p() { say " + repeat("(", 31) + "|); }", 2);
-        faultAtMark("process p() { await " + repeat("(", 31) + "|draw(1); }", 4);
+        Texts.faultAtMark("resource |abcdefghi 1;", 1);
+        Texts.faultAtMark(Texts.numbered("resource ", "r", 1, 8, " 1;") + "resource |hold 1;", 3);
+        Texts.faultAtMark(Texts.numbered("resource ", "r", 1, 8, " 1;") + "resource |r1 1;", 3);
+        Texts.faultAtMark(Texts.numbered("resource ", "r", 1, 8, " 1;") + "resource |1 1;", 2);
+        Texts.faultAtMark("process p() { " + "end;".repeat(250) + " |x = 1; }", 4);
+        Texts.faultAtMark("process p() { " + "end;".repeat(250) + " |5; }", 2);
+        Texts.faultAtMark("process p() { say " + "(".repeat(31) + "|x; }", 4);
+        Texts.faultAtMark("process p() { say " + "(".repeat(31) + "|); }", 2);
+        Texts.faultAtMark("process p() { await " + "(".repeat(31) + "|draw(1); }", 4);
     }
 
     /** A NUMBER's own faults come before that of the letter behind it, which stands at a later place. */
     private static void lettersBehindNumbers() {
-        faultAtMark("process p() { say 123456789|x; }", 1);
-        faultAtMark("resource r 1|x;", 1);
-        faultAtMark("store s 1|store 2;", 1);
-        faultAtMark("store s 1 2|A", 1);
-        faultAtMark("process p() { if 1|Z { } }", 1);
-        faultAtMark("process p() { hold 0|x10; }", 1);
-        faultAtMark("process p() { say " + repeat("(", 30) + "1|x; }", 1);
-        faultAtMark("process p(a) { start p(1|a); }", 1);
-        faultAtMark("|2X", 2);
-        faultAtMark("number |1a;", 2);
-        faultAtMark("number a |1a;", 2);
-        faultAtMark("process p() { |1x = 2; }", 2);
-        faultAtMark("process p() { say 1 |1x; }", 2);
-        faultAtMark("resource r |0x;", 5);
-        faultAtMark("resource r |100x;", 5);
-        faultAtMark("store s 5 |4x;", 5);
-        faultAtMark("process p() { say " + repeat("(", 31) + "|1x; }", 5);
-        faultAtMark("|1234567890x", 1);
-        faultAtMark("resource r |1234567890x;", 1);
+        Texts.faultAtMark("process p() { say 123456789|x; }", 1);
+        Texts.faultAtMark("resource r 1|x;", 1);
+        Texts.faultAtMark("store s 1|store 2;", 1);
+        Texts.faultAtMark("store s 1 2|A", 1);
+        Texts.faultAtMark("process p() { if 1|Z { } }", 1);
+        Texts.faultAtMark("process p() { hold 0|x10; }", 1);
+        Texts.faultAtMark("process p() { say " + "(".repeat(30) + "1|x; }", 1);
+        Texts.faultAtMark("process p(a) { start p(1|a); }", 1);
+        Texts.faultAtMark("|2X", 2);
+        Texts.faultAtMark("number |1a;", 2);
+        Texts.faultAtMark("number a |1a;", 2);
+        Texts.faultAtMark("process p() { |1x = 2; }", 2);
+        Texts.faultAtMark("process p() { say 1 |1x; }", 2);
+        Texts.faultAtMark("resource r |0x;", 5);
+        Texts.faultAtMark("resource r |100x;", 5);
+        Texts.faultAtMark("store s 5 |4x;", 5);
+        Texts.faultAtMark("process p() { say " + "(".repeat(31) + "|1x; }", 5);
+        Texts.faultAtMark("|1234567890x", 1);
+        Texts.faultAtMark("resource r |1234567890x;", 1);
     }
 
     private static boolean isOneOf(String word, String words) {
@@ -303,55 +268,55 @@ public final class LoadTest {
     private static void reservedWordsThatCannotCome() {
         String items = "resource store number process";
         String statements = "let if while hold seize free put get await start stop wake say end";
-        for (String word : RESERVED) {
+        for (String word : Texts.RESERVED) {
             if (!isOneOf(word, items)) {
-                faultAtMark("|" + word, 2);
-                faultAtMark("number a; |" + word + " 1;", 2);
+                Texts.faultAtMark("|" + word, 2);
+                Texts.faultAtMark("number a; |" + word + " 1;", 2);
             }
             if (!isOneOf(word, statements)) {
-                faultAtMark("process p() {|" + word, 2);
-                faultAtMark("process p() { |" + word + " = 1; }", 2);
-                faultAtMark("process p() { " + repeat("end;", 250) + " |" + word, 2);
+                Texts.faultAtMark("process p() {|" + word, 2);
+                Texts.faultAtMark("process p() { |" + word + " = 1; }", 2);
+                Texts.faultAtMark("process p() { " + "end;".repeat(250) + " |" + word, 2);
             }
             if (!isOneOf(word, "now me draw units queue")) {
-                faultAtMark("number a; process p(){ a = (((((((((((((|" + word, 2);
-                faultAtMark("process p() { say |" + word + "; }", 2);
-                faultAtMark("process p() { say 1 + |" + word + "; }", 2);
-                faultAtMark("process p() { await |" + word + "; }", 2);
-                faultAtMark("process p() { start p(|" + word + "); }", 2);
-                faultAtMark("process p() { say " + repeat("(", 31) + "|" + word + "; }", 2);
-                faultAtMark("resource r 1; process p() { seize r |" + word + "; }", 2);
+                Texts.faultAtMark("number a; process p(){ a = (((((((((((((|" + word, 2);
+                Texts.faultAtMark("process p() { say |" + word + "; }", 2);
+                Texts.faultAtMark("process p() { say 1 + |" + word + "; }", 2);
+                Texts.faultAtMark("process p() { await |" + word + "; }", 2);
+                Texts.faultAtMark("process p() { start p(|" + word + "); }", 2);
+                Texts.faultAtMark("process p() { say " + "(".repeat(31) + "|" + word + "; }", 2);
+                Texts.faultAtMark("resource r 1; process p() { seize r |" + word + "; }", 2);
             }
-            faultAtMark("number a |" + word + ";", 2);
-            faultAtMark("resource r |" + word + ";", 2);
-            faultAtMark("process p |" + word + "() { }", 2);
-            faultAtMark("process p(a |" + word + ") { }", 2);
-            faultAtMark("process p() |" + word + " { }", 2);
-            faultAtMark("process p() { say 1 |" + word + "; }", 2);
-            faultAtMark("process p() { end |" + word + "; }", 2);
-            faultAtMark("process p() { let a |" + word + " 1; }", 2);
+            Texts.faultAtMark("number a |" + word + ";", 2);
+            Texts.faultAtMark("resource r |" + word + ";", 2);
+            Texts.faultAtMark("process p |" + word + "() { }", 2);
+            Texts.faultAtMark("process p(a |" + word + ") { }", 2);
+            Texts.faultAtMark("process p() |" + word + " { }", 2);
+            Texts.faultAtMark("process p() { say 1 |" + word + "; }", 2);
+            Texts.faultAtMark("process p() { end |" + word + "; }", 2);
+            Texts.faultAtMark("process p() { let a |" + word + " 1; }", 2);
         }
     }
 
     /** Where the grammar has a WORD alone, a RESERVED one is a WORD: of no place, of no process. */
     private static void reservedWordsThatAreWords() {
         String before = "resource r 1; store s 0 1; number a; process p() { ";
-        for (String word : RESERVED) {
+        for (String word : Texts.RESERVED) {
             for (String use : new String[] {"seize", "free", "put", "get", "say units", "say queue", "await 1 + queue"}) {
-                faultAtMark(before + use + " |" + word + " 1; }", 4);
-                faultAtMark(before + use + " |" + word, 4);
-                faultAtMark(before + use + " |" + word + "\0", 4);
+                Texts.faultAtMark(before + use + " |" + word + " 1; }", 4);
+                Texts.faultAtMark(before + use + " |" + word, 4);
+                Texts.faultAtMark(before + use + " |" + word + "\0", 4);
             }
-            faultAtMark(before + "start |" + word + "(); }", 6);
-            faultAtMark(before + "start |" + word + "(1, a) 5; start q(); }", 6);
-            faultAtMark(before + "start q(); start |" + word + "(); } process q() { }", 6);
-            faultAtMark(before + "start " + word + "(|\0", 1);
-            faultAtMark(before + "start " + word + "|;", 2);
-            faultAtMark(before + "start " + word + "|", 2);
-            faultAtMark(before + "start " + word + "() |x; }", 4);
-            faultAtMark(before + "start " + word + "() |) }", 2);
-            faultAtMark(before + "start " + word + "(); } number |a;", 3);
-            faultAtMark(before + "start " + word + "(); } process |" + word + "() { }", 3);
+            Texts.faultAtMark(before + "start |" + word + "(); }", 6);
+            Texts.faultAtMark(before + "start |" + word + "(1, a) 5; start q(); }", 6);
+            Texts.faultAtMark(before + "start q(); start |" + word + "(); } process q() { }", 6);
+            Texts.faultAtMark(before + "start " + word + "(|\0", 1);
+            Texts.faultAtMark(before + "start " + word + "|;", 2);
+            Texts.faultAtMark(before + "start " + word + "|", 2);
+            Texts.faultAtMark(before + "start " + word + "() |x; }", 4);
+            Texts.faultAtMark(before + "start " + word + "() |) }", 2);
+            Texts.faultAtMark(before + "start " + word + "(); } number |a;", 3);
+            Texts.faultAtMark(before + "start " + word + "(); } process |" + word + "() { }", 3);
         }
     }
 
@@ -476,7 +441,7 @@ public final class LoadTest {
     /** What was read before takes no room from what is read now. */
     private static void manyLoads() {
         EventHall hall = new EventHall();
-        String big = "process p() { start q(); " + repeat("if 0 { } else { }", 100) + " } process q() { " + repeat("hold 1;", 100) + " }";
+        String big = "process p() { start q(); " + "if 0 { } else { }".repeat(100) + " } process q() { " + "hold 1;".repeat(100) + " }";
         for (int i = 0; i < 9; i++) {
             Due.feed(hall, big);
             Due.is("load of a big text", hall.load(), 0);
@@ -487,7 +452,7 @@ public final class LoadTest {
         }
         EventHall other = new EventHall();
         for (int terms = 1900; terms < 1902; terms++) {
-            Due.feed(other, "process p() { say 0" + repeat("+1", terms) + "; }");
+            Due.feed(other, "process p() { say 0" + "+1".repeat(terms) + "; }");
             Due.is("load of a long expression", other.load(), 0);
             other.start(0, 0, 0, 0, 0);
             other.run(5);
