@@ -1,8 +1,18 @@
+import java.util.List;
+
 /** The bounds of the faults of load(), and of what load() leaves; each test bears the sentence of the document. */
 public final class FaultBoundsTest {
     private static final int NO_VALUE = -2_000_000_000;
     // Of each sort one: resource r, store s, number n, process q, parameter a, let b.
     private static final String ALL_SORTS = "resource r 1; store s 0 1; number n; process q() { } process p(a) { let b = 1; ";
+
+    private static final String SIGNS = "( ) { } , ; = + - * / % < > ! == != <= >= && ||";
+    private static final String ITEMS = "resource store number process";
+    private static final String STATEMENTS = "let if while hold seize free put get await start stop wake say end a b n";
+    private static final String ONES = "- ! 1 now me draw units queue ( a b n";
+    private static final String BEHIND_ONE = "|| && < > <= >= == != + - * / %";
+    // A told WORD is tried just where it can come; wordsOfOtherSorts() and wordsToldTwice() try the others.
+    private static final int NOT_TRIED = -1;
 
     private FaultBoundsTest() {
     }
@@ -69,12 +79,6 @@ public final class FaultBoundsTest {
         Texts.faultAtMark("store s 0 |0$", 5);
     }
 
-    private static final String SIGNS = "( ) { } , ; = + - * / % < > ! == != <= >= && ||";
-    private static final String ITEMS = "resource store number process";
-    private static final String STATEMENTS = "let if while hold seize free put get await start stop wake say end a b n";
-    private static final String ONES = "- ! 1 now me draw units queue ( a b n";
-    private static final String BEHIND_ONE = "|| && < > <= >= == != + - * / %";
-
     /**
      * Behind a text each token that can come leads to the text's end; another is fault 2, a WORD and a RESERVED one what is said:
      * the fault of a WORD that was never told, and that of a RESERVED one (0: it can come).
@@ -83,21 +87,18 @@ public final class FaultBoundsTest {
         for (String token : (SIGNS + " 1 zz a b n r s q p " + String.join(" ", Texts.RESERVED)).split(" ")) {
             String whole = text + " " + token + " ";
             boolean isAllowed = (" " + allowed + " ").contains(" " + token + " ");
-            boolean isReserved = java.util.Arrays.asList(Texts.RESERVED).contains(token);
-            int fault = !Texts.isLetter(token.charAt(0)) ? 2 : isReserved ? reservedFault : token.equals("zz") ? wordFault : NONE_KNOWN;
+            boolean isReserved = List.of(Texts.RESERVED).contains(token);
+            int fault = !Texts.isLetter(token.charAt(0)) ? 2 : isReserved ? reservedFault : token.equals("zz") ? wordFault : NOT_TRIED;
             if (isAllowed || fault == 0) {
                 EventHall hall = new EventHall();
                 Due.feed(hall, whole);
                 int got = hall.load();
                 Due.isTrue(whole + " leads to the end", got == 0 || got == 2 && hall.state(12) == whole.length());
-            } else if (fault != NONE_KNOWN) {
+            } else if (fault != NOT_TRIED) {
                 Texts.fault(whole, fault, text.length() + 1);
             }
         }
     }
-
-    // A told WORD is tried just where it can come; wordsOfOtherSorts() and wordsToldTwice() try the others.
-    private static final int NONE_KNOWN = -1;
 
     /** "2 a token that can't come": in items. */
     private static void tokensThatCanComeInItems() {
@@ -165,7 +166,7 @@ public final class FaultBoundsTest {
             canCome(ALL_SORTS + statement + " 1 <", ONES, 4, 2);
             canCome(ALL_SORTS + statement + " 1 < 1", "|| && + - * / %" + (hasBlock ? " {" : " ;"), 2, 2);
         }
-        canCome(ALL_SORTS + "await", ONES.replace("draw ", ""), 4, NONE_KNOWN);
+        canCome(ALL_SORTS + "await", ONES.replace("draw ", ""), 4, NOT_TRIED);
         canCome(ALL_SORTS + "say (", ONES, 4, 2);
         canCome(ALL_SORTS + "say (1", ") " + BEHIND_ONE, 2, 2);
         canCome(ALL_SORTS + "say (1)", "; " + BEHIND_ONE, 2, 2);
