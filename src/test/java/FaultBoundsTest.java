@@ -39,6 +39,7 @@ public final class FaultBoundsTest {
         aFaultReadsNothing();
         loadOfAFullHall();
         loadLeavesNoValues();
+        loadLeavesNoWords();
         theFaultOfTheLastLoad();
         Due.close();
     }
@@ -500,6 +501,26 @@ public final class FaultBoundsTest {
             hall.turn(round == 0 ? 1 : 9);
             Due.feed(hall, text);
             hall.load();
+        }
+    }
+
+    /** "4 a WORD that is none such", "a process that is never told": what an earlier text told is told no more. */
+    private static void loadLeavesNoWords() {
+        String[] before = {"resource ", "store ", "number ", "process "};
+        String[] behind = {" 1; ", " 0 1; ", "; ", "() { } "};
+        String[] uses = {"seize ", "put ", "say ", "start "};
+        String[] rest = {"; }", " 1; }", "; }", "(); }"};
+        for (int sort = 0; sort < 4; sort++) {
+            for (int k = 1; k <= 6; k++) {
+                EventHall hall = Due.hall(Texts.numbered(before[sort], "w", 1, 6, behind[sort]));
+                String text = "process p() { " + uses[sort] + "w" + k + rest[sort];
+                Due.feed(hall, text);
+                Due.is("load of " + text, hall.load(), sort == 3 ? 6 : 4);
+                Due.is("its place", hall.state(12), text.indexOf("w" + k));
+                String told = before[sort] + "w" + k + behind[sort];
+                Due.feed(hall, told);
+                Due.is("load of " + told, hall.load(), 0);
+            }
         }
     }
 

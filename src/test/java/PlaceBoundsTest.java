@@ -19,6 +19,7 @@ public final class PlaceBoundsTest {
         putOfLessThan1OrMoreThanTheRoom();
         gettersBeforePutters();
         servedAgainAndAgain();
+        allAreServed();
         theFirstAloneIsServed();
         servedInItsOwnStatement();
         servedWhenOneLeaves();
@@ -257,6 +258,38 @@ public final class PlaceBoundsTest {
         startAll(turns, 0, 0, 0, 0, 0);
         turns.run(100);
         Due.isTrace(turns, 1, 3, 1, 4, 1, 5, 1, 6, 1, 0, 1, -1, 1, -2);
+    }
+
+    /** "again and again": all 300 processes by one statement, getters and putters. */
+    private static void allAreServed() {
+        EventHall getters = Due.hall("store s 0 9999;" + TRADE);
+        EventHall putters = Due.hall("store s 9999 9999;" + TRADE);
+        for (int i = 0; i < 299; i++) {
+            getters.start(0, 1, 0, 0, 0);
+            putters.start(1, 1, 0, 0, 0);
+        }
+        startAll(getters, 1, 299);
+        startAll(putters, 0, 299);
+        getters.run(299);
+        putters.run(299);
+        Due.is("those that wait to get", getters.place(0, 1), 299);
+        Due.is("those that wait to put", putters.place(0, 1), 299);
+        Due.is("one put", getters.run(1), 1);
+        Due.is("one get", putters.run(1), 1);
+        isPlace(getters, 0, 0, 0, 9999, 300, 299, 299);
+        isPlace(putters, 0, 9999, 0, 9999, 300, 299, 299);
+        Due.is("all that got are READY", getters.state(4), 299);
+        Due.is("all that put are READY", putters.state(4), 299);
+        EventHall units = Due.hall("resource r 99; process p(n) { while n { seize r; n = n - 1; } hold 1; } process q() { seize r; hold 1; }");
+        startAll(units, 0, 99);
+        for (int i = 0; i < 299; i++) {
+            units.start(1, 0, 0, 0, 0);
+        }
+        units.run(1 + 3 * 99 + 1 + 299);
+        Due.is("those that wait for r", units.place(0, 1), 299);
+        units.turn(1);
+        Due.is("99 of them have a unit", units.place(0, 1), 200);
+        isPlace(units, 0, 0, 200, 99, 198, 99, 299);
     }
 
     /** "the first that gets is served if so many are there": those behind it are not, though they could be. */
