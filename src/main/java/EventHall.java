@@ -338,7 +338,7 @@ public final class EventHall {
 
         /** Where the grammar has a WORD alone, a reserved one is a WORD too. */
         boolean isAnyWord() {
-            return kind == WORD || isReserved();
+            return kind == WORD || kind >= KEY;
         }
 
         boolean isReserved() {
